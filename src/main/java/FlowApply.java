@@ -8,10 +8,10 @@ public final class FlowApply {
     private static final int FEED_BYTES = 20;
     private static final int MOST_GLOBALS = 6;
     private static final int MOST_LAMBDAS = 18;
-    private static final int MOST_FUNCTIONS = 24;
-    // A let is three THINGS at least, but may share its last one with the let around it.
+    private static final int MOST_FUNCTIONS = MOST_GLOBALS + MOST_LAMBDAS;
+    // Each let is a THING and has another one ahead of its in.
     private static final int MOST_LETS = 50;
-    private static final int MOST_VARS = 74;
+    private static final int MOST_VARS = MOST_FUNCTIONS + MOST_LETS;
     private static final int MOST_THINGS = 100;
     private static final int MOST_NESTED = 20;
     private static final int MOST_LETTERS = 4;
@@ -1125,7 +1125,7 @@ public final class FlowApply {
                 for (int type = 0; type < links.size(); type++) {
                     if (links.at(type) == type && shapes.at(type) == NONE) {
                         shapes.set(type, shapeOf(type));
-                        more |= shapes.at(type) != NONE;
+                        more = more || shapes.at(type) != NONE;
                     }
                 }
             }
@@ -1230,8 +1230,10 @@ public final class FlowApply {
             int applied = comes.bits(program.part(thing, 0));
             for (int f = 0; f < program.functions; f++) {
                 if (hasBit(applied, f)) {
-                    changed |= !hasBit(called, f);
-                    called |= bit(f);
+                    if (!hasBit(called, f)) {
+                        called |= bit(f);
+                        changed = true;
+                    }
                     hold(f, comes.bits(program.part(thing, 1)));
                     got |= comesOfBody(program, f);
                 }
@@ -1871,7 +1873,7 @@ public final class FlowApply {
         private void putNumber(int number) {
             boolean begun = false;
             for (int unit = 1000; unit > 0; unit /= 10) {
-                begun |= unit == 1 || number >= unit;
+                begun = begun || unit == 1 || number >= unit;
                 if (begun) {
                     out.add('0' + number / unit % 10);
                 }

@@ -546,6 +546,12 @@ public final class PromiseTests {
         due("the 101st is not entered", 1, last.run(0, 4));
         ends("fun f x=if x then f (x-1) else (\\y.y) dead;f 99", 3, 100, 100);
         due("a number of no ending", 0, Checks.of("1/0").run(0, 1));
+        // As much as can wait at a time: in each of a hundred calls a long row of operators, on one side or the other.
+        numbers("fun f x=if x then f (x-1)" + times("+1", 44) + " else 0;f 99", 99 * 44);
+        numbers("fun f x=if x then 1" + times("-1*(1", 18) + "-1*f (x-1)" + times(")", 18) + " else 1;f 99", 0);
+        numbers("fun f x=if x then 0" + times("<0+1*(0", 14) + "<f (x-1)" + times(")", 14) + " else 1;f 99", 1);
+        ends("fun f x=f x" + times("+1", 46) + ";f 1", 4, 100, 100);
+        ends("fun f x=\\y.dead f x" + times("+1", 10) + ";f 1 2", 3, 2, 1);
     }
 
     private static void ends(String text, int ending, int steps, int deep) {
