@@ -487,6 +487,16 @@ public final class PromiseTests {
             + "(if 1 then a else b) 1+(if 1 then b else c) 2+(\\x.x) 3");
         due("a, b, c", 7, y.group(2, 0, false));
         due("alone", 8, y.group(2, 1, false));
+        // The same by way of the first, and of the last, and two GROUPS made one later.
+        String four = "let a=\\x.x in let b=\\x.x in let c=\\x.x in let d=\\x.x in ";
+        due("by way of a", 7, Checks.of(four + "(if 1 then a else b) 1+(if 1 then a else c) 2").group(2, 0, false));
+        due("by way of c", 7, Checks.of(four + "(if 1 then a else c) 1+(if 1 then b else c) 2").group(2, 0, false));
+        FlowApply z = Checks.of(four + "(if 1 then a else c) 1+(if 1 then b else d) 2");
+        due("a and c", 5, z.group(2, 0, false));
+        due("b and d", 10, z.group(2, 1, false));
+        FlowApply w = Checks.of(four + "(if 1 then a else c) 1+(if 1 then b else d) 2+(if 1 then c else b) 3");
+        due("all of them", 15, w.group(2, 0, false));
+        due("one GROUP", 1, w.split(2, 0));
     }
 
     // ---- Promises 14 and 15
