@@ -750,6 +750,9 @@ public final class PromiseTests {
         int[] want = {2, 2, 4, 17, 1 << 2, 1 | 1 << 2 | 1 << 3, 1, 2, 2, 0, 0, 2, 10};
         for (int k = 0; k < want.length; k++) due("count " + k, want[k], x.count(k));
         due("count 13", -1, x.count(13));
+        due("fields of the first that is made", 1, Checks.of("let x=1 in \\y.x+y").count(11));
+        due("fields of all that are made", 4, Checks.of("let x=1 in let y=2 in (\\z.x+y) 1+(\\u.(\\v.v) x) 2+(\\w.y) 3").count(11));
+        due("not of others", 1, Checks.of("let x=1 in \\y.\\z.x+y+z").count(11));
         due("count -1", -1, x.count(-1));
         x.show();
         due("bytes shown", "fun f g=(\\x.(g (g x)));fun no x=x;(let k=1 in (f (f (\\y.(y+k)))))".length(), x.count(10));

@@ -20,6 +20,7 @@ public final class SweepTests {
             kinds[hold(k % 3 == 0 ? reused : new FlowApply(), text)]++;
         }
         System.out.println("sweep: wrong " + kinds[0] + ", untyped " + kinds[1] + ", runs " + kinds[2] + ", too long " + kinds[3]);
+        System.out.println("of the runs: " + met);
         Checks.close("SweepTests");
     }
 
@@ -46,6 +47,7 @@ public final class SweepTests {
             Checks.due("read of " + name, model.fns.size(), got);
             Checks.due("shown behind read", 0, x.count(10));
             compare(name, x, model);
+            meet(model);
             Checks.due("take of " + name, Integer.bitCount(Model.bits(model.made)), x.take());
             Checks.due("shown behind take", 0, x.count(10));
             Model behind = new Model(Checks.bytes(model.back()), false);
@@ -97,6 +99,23 @@ public final class SweepTests {
         int[] want = {m.globals.size(), m.lambdas.size(), m.sites.size(), m.things, Model.bits(m.comes.get(m.main)),
             Model.bits(m.made), Model.bits(m.called), looked, known, m.rings().size(), x.count(10), fields, thingsOf(m.back()), -1};
         for (int k = 0; k < want.length; k++) Checks.due(name + " count " + k, want[k], x.count(k));
+    }
+
+    /** How often the sweep met what is worth meeting: a sweep that never met a ring would show nothing of rings. */
+    private static final java.util.Map<String, Integer> met = new java.util.TreeMap<>();
+
+    private static void meet(Model m) {
+        met.merge("ending " + m.new Run(0).ending, 1, Integer::sum);
+        if (!m.rings().isEmpty()) met.merge("rings", 1, Integer::sum);
+        if (m.rings().stream().anyMatch(r -> r.size() > 1)) met.merge("rings of many", 1, Integer::sum);
+        if (m.made.stream().anyMatch(f -> Model.fieldsOf(f).size() > 0)) met.merge("fields", 1, Integer::sum);
+        if (m.made.stream().anyMatch(f -> Model.fieldsOf(f).size() > 1)) met.merge("fields of many", 1, Integer::sum);
+        if (m.sites.stream().anyMatch(t -> m.applied(t).size() > 1)) met.merge("sites of many", 1, Integer::sum);
+        if (m.groups(1).size() != m.groups(2).size()) met.merge("splits that differ", 1, Integer::sum);
+        if (m.groups(2).stream().anyMatch(g -> g.size() > 2)) met.merge("groups of three", 1, Integer::sum);
+        if (m.made.size() > m.called.size()) met.merge("never called", 1, Integer::sum);
+        if (m.fns.size() > m.made.size()) met.merge("never made", 1, Integer::sum);
+        if (m.new Run(0).steps > 3) met.merge("four steps", 1, Integer::sum);
     }
 
     private static int thingsOf(String text) {
@@ -182,7 +201,7 @@ public final class SweepTests {
 
     private String typed() {
         int many = chance.nextInt(chance.nextInt(4) == 0 ? 7 : 3);
-        room = 10 + chance.nextInt(70);
+        room = 10 + chance.nextInt(85);
         for (int k = 0; k < many; k++) {
             String type = TYPES[1 + chance.nextInt(TYPES.length - 1)];
             String name = NAMES[(k * 3 + chance.nextInt(2)) % NAMES.length];
@@ -192,13 +211,32 @@ public final class SweepTests {
             word("fun"); word(name); word(var); sign("=");
             scope.clear();
             scope.add(new String[] {var, taken(type)});
+            // Until it is 0 or less, by way of itself: a RING.
+            if (type.equals("(i>i)") && chance.nextInt(3) == 0) {
+                word("if"); word("0"); sign("<"); word(var); word("then");
+                sign("("); grow("i", 1); sign(")"); sign(pick(new String[] {"+", "-", "*"}));
+                again(var.equals(name) ? "dead" : name, var);
+                word("else");
+            }
             grow(given(type), 1 + chance.nextInt(4));
             sign(";");
         }
         scope.clear();
         String type = chance.nextInt(4) == 0 ? pick(TYPES) : "i";
-        grow(type, 2 + chance.nextInt(6));
+        grow(type, 3 + chance.nextInt(6));
         return out.toString();
+    }
+
+    /** A call of the function itself: as it is, or by way of a LAMBDA, which lies in the RING then. */
+    private void again(String name, String var) {
+        boolean byLambda = chance.nextBoolean() && !name.equals("m");
+        if (byLambda) {
+            sign("("); sign("\\"); word("m"); sign(".");
+        }
+        word(name); sign("("); word(byLambda ? "m" : var); sign("-"); word("" + (1 + chance.nextInt(2))); sign(")");
+        if (byLambda) {
+            sign(")"); word(var);
+        }
     }
 
     private static String[] find(List<String[]> all, String name) {
@@ -239,9 +277,8 @@ public final class SweepTests {
     private void grow(String type, int depth) {
         room--;
         boolean small = depth <= 0 || room <= 0;
-        if (small || chance.nextInt(5) == 0) {
-            if (leaf(type)) return;
-        }
+        boolean named = !type.equals("i") && chance.nextInt(2) == 0;
+        if ((small || named || chance.nextInt(8) == 0) && leaf(type)) return;
         boolean open = depth < 3 || chance.nextInt(3) > 0;
         if (open) sign("(");
         inner(type, depth - 1, small);
@@ -253,7 +290,13 @@ public final class SweepTests {
         for (String[] entry : scope) if (entry[1].equals(type) && find(scope, entry[0]) == entry) found.add(entry[0]);
         for (String[] entry : globals) if (entry[1].equals(type) && find(scope, entry[0]) == null) found.add(entry[0]);
         if (chance.nextInt(40) == 0) { word("dead"); return true; }
-        if (type.equals("i") && (found.isEmpty() || chance.nextInt(3) == 0)) {
+        if (type.equals("i") && !found.isEmpty() && chance.nextInt(3) == 0) {
+            sign("("); word(found.get(chance.nextInt(found.size())));
+            sign(pick(new String[] {"+", "-", "*", "<"}));
+            word(found.get(chance.nextInt(found.size()))); sign(")");
+            return true;
+        }
+        if (type.equals("i") && (found.isEmpty() || chance.nextInt(5) == 0)) {
             word(chance.nextInt(6) == 0 ? "00" + chance.nextInt(100) : "" + chance.nextInt(chance.nextInt(5) == 0 ? 10000 : 4));
             return true;
         }
@@ -264,24 +307,33 @@ public final class SweepTests {
 
     private void inner(String type, int depth, boolean small) {
         boolean isInt = type.equals("i");
-        int what = small ? (isInt ? 0 : 3) : chance.nextInt(10);
-        if (what <= 1) {
+        int what = small ? (isInt ? 5 : 3) : chance.nextInt(12);
+        if (what == 0) {
             word("if"); grow("i", depth); word("then"); grow(type, depth); word("else"); grow(type, depth);
-        } else if (what == 2) {
+        } else if (what <= 2) {
             String name = pick(NAMES);
             String other = pick(TYPES);
             word("let"); word(name); sign("="); grow(other, depth); word("in");
             within(name, other, type, depth);
-        } else if (what <= 5 && !isInt) {
+        } else if (what <= 7 && !isInt) {
             String name = pick(NAMES);
             sign("\\"); word(name); sign(".");
             within(name, taken(type), given(type), depth);
-        } else if (what <= 5) {
+        } else if (what <= 6) {
             grow("i", depth); sign(pick(new String[] {"+", "-", "*", "/", "<"})); grow("i", depth);
         } else {
-            String other = chance.nextInt(3) == 0 ? pick(TYPES) : "i";
-            grow("(" + other + ">" + type + ")", depth); grow(other, depth);
+            String other = chance.nextBoolean() ? pick(TYPES) : "i";
+            applied("(" + other + ">" + type + ")", depth); grow(other, depth);
         }
+    }
+
+    /** What is applied: often one of two, so that many come together at a SITE. */
+    private void applied(String type, int depth) {
+        if (chance.nextInt(3) > 0 || room <= 0) {
+            grow(type, depth);
+            return;
+        }
+        sign("("); word("if"); grow("i", Math.min(depth, 1)); word("then"); grow(type, depth - 1); word("else"); grow(type, depth - 1); sign(")");
     }
 
     private void within(String name, String held, String type, int depth) {
