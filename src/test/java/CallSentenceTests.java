@@ -1,4 +1,5 @@
 import java.io.IOException;
+import java.util.function.Function;
 import java.util.function.Supplier;
 
 /** The paragraph on exceptions and the promises: their sentences that name a boundary case, each with a test of its own. */
@@ -48,12 +49,19 @@ public final class CallSentenceTests {
 
     private static void thrown(String want, String what, Supplier<Object> call) { due(what, want, Checks.answer(call)); }
 
-    private static FlowApply of(String text) { return Sentences.of(text); }
+    private static Subject of(String text) { return Sentences.of(text); }
+
+    /** One object with the text's program, for what a call leaves behind. */
+    private static Subject alone(String text) {
+        Subject x = new Subject(true);
+        Checks.read(x, text);
+        return x;
+    }
 
     private static String times(int many, String text) { return text.repeat(many); }
 
     /** All that can be asked without a change of what is SHOWN. */
-    private static String state(FlowApply x) {
+    private static String state(Subject x) {
         StringBuilder out = new StringBuilder();
         int functions = x.count(0) + x.count(1);
         out.append(x.fault()).append(';').append(Sentences.row(13, x::count)).append(';');
@@ -62,7 +70,10 @@ public final class CallSentenceTests {
         for (int split = 0; split < 3; split++) {
             out.append(Sentences.splitRow(x, split)).append(';').append(Sentences.groupRow(x, split)).append(';');
         }
-        for (int how = 0; how < 4; how++) out.append(Sentences.runRow(x, how)).append(Sentences.blameRow(x, how)).append(';');
+        for (int how = 0; how < 4; how++) {
+            int at = how;
+            out.append(Sentences.runRow(x, how)).append(' ').append(Sentences.row(3, k -> x.blame(at, k))).append(';');
+        }
         for (int f = 0; f < functions; f++) {
             int from = f;
             out.append(Sentences.row(functions, g -> x.far(from, g))).append(Sentences.row(functions, g -> x.alike(from, g)));
@@ -92,7 +103,7 @@ public final class CallSentenceTests {
 
     private static void severalExceptions() {
         sentence("Of several exceptions the one told first is thrown");
-        FlowApply x = of(SAMPLE);
+        Subject x = of(SAMPLE);
         for (int not : new int[] {LEAST, -1, 99, MOST}) {
             thrown(BEYOND, "function", () -> x.function(not, not));
             thrown(BEYOND, "field", () -> x.field(not, not));
@@ -105,21 +116,20 @@ public final class CallSentenceTests {
         thrown(NONE_SUCH, "split 3", () -> x.split(3, 5));
         thrown(ILLEGAL, "group of split 3", () -> x.group(3, 0, true));
         thrown(ILLEGAL, "run 4", () -> x.run(4, 5));
-        due("a text that is wrong, and does not TYPE ahead of that", ILLEGAL, Checks.read(new FlowApply(), "1 1)"));
+        due("a text that is wrong, and does not TYPE ahead of that", ILLEGAL, Checks.read(new Subject(), "1 1)"));
     }
 
-    private static void changesNothing(String want, Supplier<FlowApply> made, java.util.function.Function<FlowApply, Object> call) {
-        FlowApply x = made.get();
-        String before = state(x);
+    private static void changesNothing(String want, Function<Subject, Object> call) {
+        Subject x = full();
         thrown(want, "a call", () -> call.apply(x));
-        due("all but the text", before, state(x));
+        due("all but the text", state(full()), state(x));
         due("the TAPE", 40, x.feed(0, 0, 0, 0, 0));
         due("THE PROGRAM", Sentences.show(of(SAMPLE)), Sentences.show(x));
     }
 
     /** With a fault, something SHOWN, twenty bytes on the TAPE. */
-    private static FlowApply full() {
-        FlowApply x = of(SAMPLE);
+    private static Subject full() {
+        Subject x = alone(SAMPLE);
         Checks.read(x, "1+)");
         x.type(0);
         x.feed(0x31202020, 0x20202020, 0x20202020, 0x20202020, 0x20202020);
@@ -128,46 +138,51 @@ public final class CallSentenceTests {
 
     private static void throwsChangeNothing() {
         sentence("a call that throws changes nothing");
-        changesNothing(BEYOND, CallSentenceTests::full, x -> x.function(5, 0));
-        changesNothing(NONE_SUCH, CallSentenceTests::full, x -> x.function(0, 13));
-        changesNothing(BEYOND, CallSentenceTests::full, x -> x.field(5, 0));
-        changesNothing(NONE_SUCH, CallSentenceTests::full, x -> x.field(1, 1));
-        changesNothing(BEYOND, CallSentenceTests::full, x -> x.type(5));
-        changesNothing(BEYOND, CallSentenceTests::full, x -> x.type(-1));
-        changesNothing(BEYOND, CallSentenceTests::full, x -> x.alike(0, 5));
-        changesNothing(BEYOND, CallSentenceTests::full, x -> x.site(6, 0));
-        changesNothing(NONE_SUCH, CallSentenceTests::full, x -> x.site(0, 7));
-        changesNothing(NONE_SUCH, CallSentenceTests::full, x -> x.split(0, 5));
-        changesNothing(ILLEGAL, CallSentenceTests::full, x -> x.split(3, 0));
-        changesNothing(ILLEGAL, CallSentenceTests::full, x -> x.group(3, 0, false));
-        changesNothing(NONE_SUCH, CallSentenceTests::full, x -> x.group(0, 1, true));
-        changesNothing(ILLEGAL, CallSentenceTests::full, x -> x.run(4, 0));
-        changesNothing(NONE_SUCH, CallSentenceTests::full, x -> x.run(0, 5));
-        changesNothing(ILLEGAL, CallSentenceTests::full, x -> x.blame(4, 0));
-        changesNothing(ILLEGAL, CallSentenceTests::full, x -> x.form(3));
-        changesNothing(BEYOND, CallSentenceTests::full, x -> x.ring(0));
-        changesNothing(BEYOND, CallSentenceTests::full, x -> x.far(0, 5));
+        changesNothing(BEYOND, x -> x.function(5, 0));
+        changesNothing(NONE_SUCH, x -> x.function(0, 13));
+        changesNothing(BEYOND, x -> x.field(5, 0));
+        changesNothing(NONE_SUCH, x -> x.field(1, 1));
+        changesNothing(BEYOND, x -> x.type(5));
+        changesNothing(BEYOND, x -> x.type(-1));
+        changesNothing(BEYOND, x -> x.alike(0, 5));
+        changesNothing(BEYOND, x -> x.site(6, 0));
+        changesNothing(NONE_SUCH, x -> x.site(0, 7));
+        changesNothing(NONE_SUCH, x -> x.split(0, 5));
+        changesNothing(ILLEGAL, x -> x.split(3, 0));
+        changesNothing(ILLEGAL, x -> x.group(3, 0, false));
+        changesNothing(NONE_SUCH, x -> x.group(0, 1, true));
+        changesNothing(ILLEGAL, x -> x.run(4, 0));
+        changesNothing(NONE_SUCH, x -> x.run(0, 5));
+        changesNothing(ILLEGAL, x -> x.blame(4, 0));
+        changesNothing(ILLEGAL, x -> x.form(3));
+        changesNothing(BEYOND, x -> x.ring(0));
+        changesNothing(BEYOND, x -> x.far(0, 5));
     }
 
     private static void readsThatThrow() {
         sentence("but the TAPE, where it is used up, and fault(), where a text is read.");
         for (String text : new String[] {"fun f x=x;fun h y=\\a.\\b.(f 1", "fun f x=1;f f f", "", "\\x.x x"}) {
             boolean types = text.startsWith("fun f x=x") || text.isEmpty();
-            FlowApply x = of(SAMPLE);
-            x.form(0);
-            String before = state(x);
+            Subject x = alone(SAMPLE);
+            x.typeOfMain();
+            Subject y = of(SAMPLE);
+            y.typeOfMain();
             due("a read of " + text, types ? ILLEGAL : CANNOT, Checks.read(x, text));
             due("fault()", types ? text.length() : -1, x.fault());
-            due("all but the fault", before.substring(before.indexOf(';')), state(x).substring(state(x).indexOf(';')));
+            due("all but the fault", behindFault(state(y)), behindFault(state(x)));
             due("the TAPE is used up", 20, x.feed(0, 0, 0, 0, 0));
             due("THE PROGRAM", Sentences.show(of(SAMPLE)), Sentences.show(x));
-            due("BACK", Sentences.back(SAMPLE), Checks.told(x, x::back));
+            Subject z = alone(SAMPLE);
+            Checks.read(z, text);
+            due("BACK", Sentences.back(SAMPLE), Checks.told(z, z::back));
         }
     }
 
+    private static String behindFault(String state) { return state.substring(state.indexOf(';')); }
+
     private static void exceptionsByKind() {
         sentence("IndexOutOfBoundsException: there is no such FUNCTION, SITE, RING.");
-        FlowApply x = of("fun l x=l x;fun m x=m (l x);dead (m 1)");
+        Subject x = of("fun l x=l x;fun m x=m (l x);dead (m 1)");
         for (int not : new int[] {LEAST, -1, MOST}) {
             thrown(BEYOND, "FUNCTION " + not, () -> x.function(not, 0));
             thrown(BEYOND, "FUNCTION " + not, () -> x.field(not, 0));
@@ -205,7 +220,7 @@ public final class CallSentenceTests {
         StringBuilder most = new StringBuilder();
         for (char c = 'a'; c <= 'f'; c++) most.append("fun ").append(c).append(" x=x;");
         most.append("dead a b c d e f").append(times(18, " (\\x.x)"));
-        FlowApply y = of(most.toString());
+        Subject y = of(most.toString());
         due("24 of them are MADE", 0xffffff, y.count(5));
         due("one GROUP", 0xffffff, y.group(0, 0, false));
         due("the last GROUP", 1 << 23, y.group(2, 23, false));
@@ -215,7 +230,7 @@ public final class CallSentenceTests {
 
     private static void shownAtFirst() {
         sentence("At first THE PROGRAM is dead alone.");
-        FlowApply x = new FlowApply();
+        Subject x = new Subject();
         due("counts", "0 0 0 1 0 0 0 0 0 0 0 0 1 -1", Sentences.row(14, x::count));
         due("runs", "3 0 0 0 0", Sentences.runRow(x, 0));
         due("runs of the form", "3 0 0 0 0", Sentences.runRow(x, 3));
@@ -230,7 +245,7 @@ public final class CallSentenceTests {
         thrown(BEYOND, "no RING", () -> x.ring(0));
         thrown(NONE_SUCH, "no GROUP", () -> x.group(0, 0, false));
         sentence("What is SHOWN is what was written last (nothing at first, and behind read(), take() that were done).");
-        FlowApply y = new FlowApply();
+        Subject y = new Subject();
         due("nothing at first", "", Checks.shown(y));
         y.show();
         due("what was written", "dead", Checks.shown(y));
@@ -261,7 +276,7 @@ public final class CallSentenceTests {
 
     private static void feed() {
         sentence("Twenty bytes come behind the TAPE, of each number the highest first: how many it has");
-        FlowApply x = new FlowApply();
+        Subject x = new Subject();
         due("the first", 20, x.feed(0x5c61202e, 0x0a092062, 0x20000000, 0, 0));
         due("cut", true, x.end(8));
         due("behind the TAPE", 28, x.feed(0x2c000000, 0, 0, 0, 0));
@@ -275,7 +290,7 @@ public final class CallSentenceTests {
         thrown(ILLEGAL, "bytes from 128 on", x::read);
         due("they are no BLANKS", 0, x.fault());
         sentence("NONE, and none come, if it would have more than 400.");
-        FlowApply y = new FlowApply();
+        Subject y = new Subject();
         for (int k = 1; k <= 20; k++) due("feed " + k, 20 * k, y.feed(0x20202020, 0x20202020, 0x20202020, 0x20202020, 0x20202020));
         due("a 21st", -1, y.feed(0x31313131, 0x31313131, 0x31313131, 0x31313131, 0x31313131));
         due("none came", false, y.end(401));
@@ -290,7 +305,7 @@ public final class CallSentenceTests {
 
     private static void end() {
         sentence("The TAPE has its first n bytes alone: true");
-        FlowApply x = new FlowApply();
+        Subject x = new Subject();
         Checks.feed(x, Checks.bytes("12+34+56+78+90+12+34"));
         due("all of them", true, x.end(20));
         due("five", true, x.end(5));
@@ -300,7 +315,7 @@ public final class CallSentenceTests {
         Checks.feed(x, Checks.bytes("12+34+56+78+90+12+34"));
         due("none", true, x.end(0));
         due("it begins anew", 20, x.feed(0, 0, 0, 0, 0));
-        due("0 of none", true, new FlowApply().end(0));
+        due("0 of none", true, new Subject().end(0));
         sentence("false, and nothing happens, if it has fewer, or n is below 0.");
         Checks.read(x, "1");
         Checks.feed(x, Checks.bytes("12+34+56+78+90"));
@@ -313,7 +328,7 @@ public final class CallSentenceTests {
 
     private static void read() {
         sentence("Uses the TAPE up: it is THE PROGRAM: how many FUNCTIONS.");
-        FlowApply x = new FlowApply();
+        Subject x = new Subject();
         due("two GLOBALS, three LAMBDAS", 5, Checks.read(x, "fun f x=\\y.x;fun g x=x;dead (\\z.z) (\\w.w)"));
         due("the TAPE is used up", false, x.end(1));
         due("no FUNCTIONS", 0, Checks.read(x, "1"));
@@ -325,6 +340,18 @@ public final class CallSentenceTests {
         due("one that is right", 1, Checks.read(x, "\\x.x"));
     }
 
+    private static Subject behind(String first, String text) {
+        Subject x = alone(first);
+        x.take();
+        for (int how = 0; how < 4; how++) x.run(how, 0);
+        Checks.read(x, "fun f x=\\a.\\b.let c=1 in (x");
+        Checks.read(x, "(\\x.x x) 1 2 3");
+        Checks.read(x, first);
+        x.form(0);
+        Checks.read(x, text);
+        return x;
+    }
+
     /** What is read is as it is on a new object, whatever was read, run and thrown ahead of it. */
     private static void readBehindOthers() {
         sentence("Uses the TAPE up: it is THE PROGRAM");
@@ -332,34 +359,27 @@ public final class CallSentenceTests {
             "let a=\\x.x+1 in let b=\\y.y*2 in (if 1 then a else b) 3", "fun l x=l x;l 0", "(\\x.x/0) 1+(\\y.\\z.y) 2 3"};
         for (String first : texts) {
             for (String text : texts) {
-                FlowApply x = of(first);
-                x.take();
-                for (int how = 0; how < 4; how++) x.run(how, 0);
-                Checks.read(x, "fun f x=\\a.\\b.let c=1 in (x");
-                Checks.read(x, "(\\x.x x) 1 2 3");
-                Checks.read(x, first);
-                x.form(0);
-                Checks.read(x, text);
-                FlowApply y = of(text);
-                due("state of " + text + " behind " + first, state(y), state(x));
+                Subject y = of(text);
+                due("state of " + text + " behind " + first, state(y), state(behind(first, text)));
+                Subject x = behind(first, text);
                 due("form", Checks.told(y, () -> y.form(2)), Checks.told(x, () -> x.form(2)));
                 due("TYPE of MAIN", Checks.told(y, y::typeOfMain), Checks.told(x, x::typeOfMain));
                 due("back", Checks.told(y, y::back), Checks.told(x, x::back));
             }
         }
         // many of them: each has its own 100 THINGS, 18 LAMBDAS, 20 within one another
-        FlowApply z = new FlowApply();
+        Subject z = new Subject(true);
         for (int k = 0; k < 12; k++) {
             due("a text of lets", 1, Checks.read(z, times(18, "let a=1 in ") + "\\x.(a)"));
             due("a wrong one", ILLEGAL, Checks.read(z, times(10, "(") + times(9, "let b=2 in ") + "\\c.c b c"));
         }
         due("the run of the last", "1 0 0 0 0", Sentences.runRow(z, 0));
-        due("its BACK", times(18, "(let a=1 in ") + "(\\x.dead)" + times(18, ")"), Checks.told(z, z::back));
+        due("its BACK", (times(18, "(let a=1 in ") + "(\\x.dead)" + times(18, ")")).length(), z.back());
     }
 
     private static void fault() {
         sentence("THE FAULT of the latest read(); NONE without one, and ahead of any.");
-        FlowApply x = new FlowApply();
+        Subject x = new Subject();
         due("ahead of any", -1, x.fault());
         Checks.read(x, "1+");
         due("of the latest", 2, x.fault());
@@ -382,7 +402,7 @@ public final class CallSentenceTests {
 
     private static void function() {
         // f 0; the LAMBDAS: x 1, y 2, z 3, w 4
-        FlowApply x = of(SAMPLE);
+        Subject x = of(SAMPLE);
         sentence("Of a FUNCTION what 0 its HOME (NONE: MAIN; GLOBALS, too), 1 1 if it is a GLOBAL, 2 1 if MADE, 3 1 if CALLED");
         due("HOMES", "-1 -1 -1 -1 -1", Sentences.row(5, f -> x.function(f, 0)));
         due("HOMES of LAMBDAS within", "-1 0 1 -1", Sentences.row(4, f -> of("fun f x=\\y.\\z.1;\\w.2").function(f, 0)));
@@ -392,9 +412,9 @@ public final class CallSentenceTests {
         due("CALLED", "1 1 1 1 0", Sentences.row(5, f -> x.function(f, 3)));
         sentence("4 what its VAR has (bits; 0 if it is not CALLED), 5 what comes of its EXPR (bits; 0 likewise)");
         due("VARS", "10 0 8 0 0", Sentences.row(5, f -> x.function(f, 4)));
-        FlowApply y = of("fun f x=\\y.x;fun g x=f x;f 1");
+        Subject y = of("fun f x=\\y.x;fun g x=f x;f 1");
         due("of EXPR that is not LOOKED at", "4 0 0", Sentences.row(3, f -> y.function(f, 5)));
-        FlowApply z = of("let i=\\x.x in \\y.i (\\z.z)");
+        Subject z = of("let i=\\x.x in \\y.i (\\z.z)");
         due("nothing is CALLED", "0 0 0", Sentences.row(3, f -> z.function(f, 4)));
         due("nothing comes", "0 0 0", Sentences.row(3, f -> z.function(f, 5)));
         sentence("6 how many FIELDS, 7 its GROUP by split 2 (NONE), 8 by split 1 (NONE), 9 CALLS (bits), 10 its RING (NONE)");
@@ -419,7 +439,7 @@ public final class CallSentenceTests {
 
     private static void field() {
         sentence("The k-th FIELD of a FUNCTION is SHOWN (its name): how many bytes. NoSuchElementException: there is none such.");
-        FlowApply x = of("let a=1 in let bc=2 in let def=3 in let ghij=4 in \\x.ghij+def+bc+a");
+        Subject x = of("let a=1 in let bc=2 in let def=3 in let ghij=4 in \\x.ghij+def+bc+a");
         due("how many bytes", "4 3 2 1 " + NONE_SUCH, Sentences.row(5, k -> x.field(0, k)));
         due("the names", "ghij def bc a", Sentences.fieldRow(x, 0));
         for (int not : new int[] {LEAST, -1, 4, MOST}) thrown(NONE_SUCH, "FIELD " + not, () -> x.field(0, not));
@@ -429,7 +449,7 @@ public final class CallSentenceTests {
 
     private static void type() {
         sentence("The TYPE of a FUNCTION is SHOWN: how many bytes.");
-        FlowApply x = of("fun f x=\\y.x+y;\\z.z");
+        Subject x = of("fun f x=\\y.x+y;\\z.z");
         due("how many bytes", "9 5 5 " + BEYOND, Sentences.row(4, x::type));
         due("of one that is not MADE", "(i>(i>i))", Checks.told(x, () -> x.type(0)));
         due("of one that is open", "(a>a)", Checks.told(x, () -> x.type(2)));
@@ -443,20 +463,20 @@ public final class CallSentenceTests {
     private static void alike() {
         sentence("Whether two FUNCTIONS have one TYPE.");
         // f: (i>i); \y: (i>(i>i)); \z: (i>i); \w: ((i>i)>i)
-        FlowApply x = of("fun f x=x+1;dead (\\y.\\z.y+z) (\\w.w 1+1)");
+        Subject x = of("fun f x=x+1;dead (\\y.\\z.y+z) (\\w.w 1+1)");
         due("f", "true false true false", Sentences.row(4, g -> x.alike(0, g)));
         due("\\y", "false true false false", Sentences.row(4, g -> x.alike(1, g)));
         due("\\w", "false false false true", Sentences.row(4, g -> x.alike(3, g)));
         // TYPES that are told in more bytes than can be counted, and differ by what comes last
         String many = times(7, "(\\p.\\f.f p p)(") + "1" + times(7, ")");
-        FlowApply y = of(many);
+        Subject y = of(many);
         due("each with itself alone", "true false false", Sentences.row(3, g -> y.alike(0, g)));
     }
 
     private static void site() {
         sentence("Of a SITE what 0 its HOME, 1 what comes as what is applied (bits; 0 if it is not LOOKED at),"
             + " 2 as the argument, 3 of it, 4 its APPLY by split 2 (the GROUP; NONE), 5 1 if KNOWN, 6 1 if LOOKED at.");
-        FlowApply x = of(SAMPLE);
+        Subject x = of(SAMPLE);
         due("g 1", "0 10 0 0 1 0 1", Sentences.siteRow(x, 0));
         due("f of \\x", "-1 1 2 0 0 1 1", Sentences.siteRow(x, 2));
         due("\\y of \\z", "-1 4 8 0 2 1 1", Sentences.siteRow(x, 4));
@@ -471,7 +491,7 @@ public final class CallSentenceTests {
     private static void split() {
         sentence("Of split 0 to 2 what 0 GROUPS, 1 GROUPS that have CASES, 2 CASES of all, 3 the most of one,"
             + " 4 FUNCTIONS that are MADE and are no CASE.");
-        FlowApply x = of(SAMPLE);
+        Subject x = of(SAMPLE);
         // f, \y | \x, \z | \w by TYPES; f | \x, \z | \y | \w by SITES
         due("split 0", "1 1 4 4 1", Sentences.splitRow(x, 0));
         due("split 1", "3 2 4 2 1", Sentences.splitRow(x, 1));
@@ -485,7 +505,7 @@ public final class CallSentenceTests {
 
     private static void group() {
         sentence("FUNCTIONS of the k-th GROUP (cases false), or its CASES.");
-        FlowApply x = of(SAMPLE);
+        Subject x = of(SAMPLE);
         due("split 0", "31", Sentences.groupRow(x, 0));
         due("split 1", "5 10 16", Sentences.groupRow(x, 1));
         due("split 2", "1 10 4 16", Sentences.groupRow(x, 2));
@@ -520,7 +540,7 @@ public final class CallSentenceTests {
     private static void runBehindOthers() {
         sentence("2 STEPS, 3 DEEP, 4 FUNCTIONS that were entered (bits).");
         // a run that ends with much that waits: in each of a hundred calls sums whose right sides are not done yet
-        FlowApply x = of("fun f x=" + times(19, "1+1*(") + "f x" + times(19, ")") + ";f 1");
+        Subject x = alone("fun f x=" + times(19, "1+1*(") + "f x" + times(19, ")") + ";f 1");
         for (int k = 0; k < 100; k++) due("what waits", 4, x.run(k % 4, 0));
         due("the 101st run", "4 0 100 100 1", Sentences.runRow(x, 0));
         due("one behind it", 1, Checks.read(x, "(\\x.1+x*2) 3"));
@@ -541,13 +561,13 @@ public final class CallSentenceTests {
 
     private static void blame() {
         sentence("BLAME of that RUN: the k-th FUNCTION; NONE without.");
-        FlowApply x = of("(\\x.(\\y.y/0) x) 3");
+        Subject x = of("(\\x.(\\y.y/0) x) 3");
         for (int how = 0; how < 4; how++) {
             int at = how;
             due("of " + how, "1 0 -1", Sentences.row(3, k -> x.blame(at, k)));
             for (int not : new int[] {LEAST, -1, 2, 100, MOST}) due("NONE", -1, x.blame(at, not));
         }
-        FlowApply y = of("fun l x=l x;l 0");
+        Subject y = of("fun l x=l x;l 0");
         due("the 100th", "0 0 -1 -1", Sentences.row(4, k -> y.blame(2, 98 + k)));
         due("NONE of a NUMBER", -1, of("(\\x.x) 1").blame(0, 0));
         due("NONE of a FUNCTION", -1, of("(\\x.\\y.x) 1").blame(1, 0));
@@ -562,7 +582,7 @@ public final class CallSentenceTests {
     // ---- Promises 16 to 19
 
     private static void shownByCalls() {
-        FlowApply x = of("fun f x=x;fun g x=\\y.x;g 1");
+        Subject x = of("fun f x=x;fun g x=\\y.x;g 1");
         sentence("THE FORM by a split is SHOWN: how many bytes. IllegalArgumentException: the split is none.");
         due("bytes", 26, x.form(0));
         due("SHOWN", "a0:{C1()x.C2(x)}a0(C1(),1)", Checks.shown(x));
@@ -580,16 +600,18 @@ public final class CallSentenceTests {
 
     private static void take() {
         sentence("BACK is THE PROGRAM now: how many FUNCTIONS.");
-        FlowApply x = of("fun f x=x;fun g x=\\y.(\\z.z) x;fun h x=g x;dead h (g 1)");
-        due("ahead", 5, x.count(0) + x.count(1));
-        due("how many", 3, x.take());
-        due("THE PROGRAM", "fun g x=(\\y.dead);fun h x=dead;((dead h) (g 1))", Sentences.show(x));
-        FlowApply y = of("fun g x=(\\y.dead);fun h x=dead;((dead h) (g 1))");
+        String text = "fun f x=x;fun g x=\\y.(\\z.z) x;fun h x=g x;dead h (g 1)";
+        String back = "fun g x=(\\y.dead);fun h x=dead;((dead h) (g 1))";
+        due("BACK", back, Sentences.back(text));
+        Subject y = of(back);
         y.show();
-        due("all as of that text", state(y), state(x));
-        due("again", 3, x.take());
-        x.show();
-        due("all as it was", state(y), state(x));
+        for (int many = 1; many <= 3; many++) {
+            Subject x = alone(text);
+            due("ahead", 5, x.count(0) + x.count(1));
+            for (int k = 0; k < many; k++) due("how many", 3, x.take());
+            due("THE PROGRAM", back, Sentences.show(x));
+            due("all as of that text", state(y), state(x));
+        }
         due("none is left", 0, of("fun f x=x;1").take());
         due("all are left", 2, of("fun f x=x;f ((\\y.y) 1)").take());
     }
@@ -598,7 +620,7 @@ public final class CallSentenceTests {
 
     private static void ring() {
         sentence("FUNCTIONS of a RING, as bits.");
-        FlowApply x = of("fun a x=(\\y.a y) x;fun b x=b (a x);b 1");
+        Subject x = of("fun a x=(\\y.a y) x;fun b x=b (a x);b 1");
         due("RINGS", "5 2 " + BEYOND, Sentences.row(3, x::ring));
         thrown(BEYOND, "RING -1", () -> x.ring(-1));
         thrown(BEYOND, "none without", () -> of("(\\x.x) 1").ring(0));
@@ -607,7 +629,7 @@ public final class CallSentenceTests {
     private static void far() {
         sentence("By how many CALLS at least one comes from one FUNCTION to another one (0: itself); NONE: never, or one is not CALLED.");
         // a CALLS a and b, b CALLS c and d, c CALLS d; e is not CALLED; f CALLS none and is CALLED by MAIN alone
-        FlowApply x = of("fun d x=x;fun c x=d x;fun b x=c (d x);fun a x=a (b x);fun e x=a x;fun f x=x;a (f 1)");
+        Subject x = of("fun d x=x;fun c x=d x;fun b x=c (d x);fun a x=a (b x);fun e x=a x;fun f x=x;a (f 1)");
         due("from a", "2 2 1 0 -1 -1", Sentences.row(6, g -> x.far(3, g)));
         due("from b", "1 1 0 -1 -1 -1", Sentences.row(6, g -> x.far(2, g)));
         due("from d", "0 -1 -1 -1 -1 -1", Sentences.row(6, g -> x.far(0, g)));
@@ -615,14 +637,14 @@ public final class CallSentenceTests {
         due("to e", "-1 -1 -1 -1 -1 -1", Sentences.row(6, f -> x.far(f, 4)));
         due("from f", "-1 -1 -1 -1 -1 0", Sentences.row(6, g -> x.far(5, g)));
         // round a ring
-        FlowApply y = of("fun a x=(\\p.(\\q.(\\r.a r) q) p) x;a 1");
+        Subject y = of("fun a x=(\\p.(\\q.(\\r.a r) q) p) x;a 1");
         due("round", "0 1 2 3", Sentences.row(4, g -> y.far(0, g)));
         due("back", "0 3 2 1", Sentences.row(4, f -> y.far(f, 0)));
     }
 
     private static void octet() {
         sentence("Byte k of what is SHOWN; NONE without.");
-        FlowApply x = of("\\x.1");
+        Subject x = of("\\x.1");
         due("nothing SHOWN", -1, x.octet(0));
         x.show();
         due("bytes", "40 92 120 46 49 41 -1 -1", Sentences.row(8, x::octet));
@@ -636,7 +658,7 @@ public final class CallSentenceTests {
     private static void count() {
         sentence("0 GLOBALS, 1 LAMBDAS, 2 SITES, 3 THINGS, 4 what ESCAPES (bits), 5 MADE (bits), 6 CALLED (bits),"
             + " 7 SITES LOOKED at, 8 KNOWN, 9 RINGS, 10 bytes SHOWN, 11 FIELDS of all that are MADE, 12 THINGS of BACK.");
-        FlowApply x = of("fun l x=l x;fun n x=n x;let k=1 in (\\a.\\b.a+b+k) (l k)");
+        Subject x = of("fun l x=l x;fun n x=n x;let k=1 in (\\a.\\b.a+b+k) (l k)");
         due("all", "2 2 4 19 8 13 5 3 3 1 0 3 12", Sentences.row(13, x::count));
         x.form(0);
         due("bytes SHOWN", Checks.shown(x).length(), x.count(10));

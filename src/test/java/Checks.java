@@ -44,33 +44,33 @@ final class Checks {
     static byte[] bytes(String text) { return text.getBytes(StandardCharsets.ISO_8859_1); }
 
     /** Puts a text of at most 400 bytes on an empty TAPE. */
-    static void feed(FlowApply x, byte[] text) {
+    static void feed(Subject x, byte[] text) {
         for (int k = 0; k < text.length; k += 20) {
             x.feed(four(text, k), four(text, k + 4), four(text, k + 8), four(text, k + 12), four(text, k + 16));
         }
         x.end(text.length);
     }
 
-    private static int four(byte[] text, int from) {
+    static int four(byte[] text, int from) {
         int number = 0;
         for (int k = from; k < from + 4; k++) number = number << 8 | (k < text.length ? text[k] & 255 : 0);
         return number;
     }
 
-    static Object read(FlowApply x, String text) {
+    static Object read(Subject x, String text) {
         feed(x, bytes(text));
         return answer(x::read);
     }
 
     /** A new object whose program is the text. */
-    static FlowApply of(String text) {
-        FlowApply x = new FlowApply();
+    static Subject of(String text) {
+        Subject x = new Subject();
         Object got = read(x, text);
         if (!(got instanceof Integer)) due("read of " + text, "a program", got);
         return x;
     }
 
-    static String shown(FlowApply x) {
+    static String shown(Subject x) {
         StringBuilder out = new StringBuilder();
         for (int k = 0; x.octet(k) != FlowApply.NONE; k++) out.append((char) x.octet(k));
         due("count(10)", out.length(), x.count(10));
@@ -78,7 +78,7 @@ final class Checks {
     }
 
     /** What is shown by a call that answers how many bytes it showed. */
-    static Object told(FlowApply x, Supplier<Object> call) {
+    static Object told(Subject x, Supplier<Object> call) {
         Object many = answer(call);
         if (!(many instanceof Integer)) return many;
         String text = shown(x);

@@ -32,13 +32,13 @@ public final class FlowSentenceTests {
 
     private static void blames(String want, String blame, String text) { Sentences.runsBlaming(want, blame, text); }
 
-    private static FlowApply of(String text) { return Sentences.of(text); }
+    private static Subject of(String text) { return Sentences.of(text); }
 
     private static String times(int many, String text) { return text.repeat(many); }
 
     /** ESCAPES, MADE, CALLED, SITES that are LOOKED at. */
     private static void flow(String want, String text) {
-        FlowApply x = of(text);
+        Subject x = of(text);
         due(text, want, Sentences.row(4, k -> x.count(k + 4)));
     }
 

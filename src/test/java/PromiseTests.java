@@ -39,25 +39,25 @@ public final class PromiseTests {
 
     private static void due(String what, Object want, Object got) { Checks.due(what, want, got); }
 
-    private static int[] functionRow(FlowApply x, int f) {
+    private static int[] functionRow(Subject x, int f) {
         int[] row = new int[13];
         for (int k = 0; k < row.length; k++) row[k] = x.function(f, k);
         return row;
     }
 
-    private static int[] siteRow(FlowApply x, int s) {
+    private static int[] siteRow(Subject x, int s) {
         int[] row = new int[7];
         for (int k = 0; k < row.length; k++) row[k] = x.site(s, k);
         return row;
     }
 
-    private static int[] runRow(FlowApply x, int how) {
+    private static int[] runRow(Subject x, int how) {
         int[] row = new int[5];
         for (int k = 0; k < row.length; k++) row[k] = x.run(how, k);
         return row;
     }
 
-    private static int[] splitRow(FlowApply x, int split) {
+    private static int[] splitRow(Subject x, int split) {
         int[] row = new int[5];
         for (int k = 0; k < row.length; k++) row[k] = x.split(split, k);
         return row;
@@ -70,7 +70,7 @@ public final class PromiseTests {
     // ---- Promise 1
 
     private static void newObject() {
-        FlowApply x = new FlowApply();
+        Subject x = new Subject();
         due("NONE", -1, FlowApply.NONE);
         due("new: count 10", 0, x.count(10));
         due("new: octet 0", -1, x.octet(0));
@@ -90,7 +90,7 @@ public final class PromiseTests {
     // ---- Promises 2 and 3
 
     private static void feed() {
-        FlowApply x = new FlowApply();
+        Subject x = new Subject();
         for (int k = 1; k <= 20; k++) due("feed " + k, k * 20, x.feed(k, k, k, k, k));
         due("feed beyond 400", -1, x.feed(0, 0, 0, 0, 0));
         due("none came", false, x.end(401));
@@ -98,7 +98,7 @@ public final class PromiseTests {
         due("401 would be too many", -1, x.feed(0, 0, 0, 0, 0));
         due("end 380", true, x.end(380));
         due("just 400", 400, x.feed(0, 0, 0, 0, 0));
-        FlowApply y = new FlowApply();
+        Subject y = new Subject();
         // "1+2*" "(3-4" ") /5" "<678" "9<9 " would be wrong at the second <: cut ahead of it.
         y.feed(0x312b322a, 0x28332d34, 0x29202f35, 0x3c363738, 0x393c3920);
         y.end(17);
@@ -110,7 +110,7 @@ public final class PromiseTests {
     }
 
     private static void end() {
-        FlowApply x = new FlowApply();
+        Subject x = new Subject();
         due("end 0 of nothing", true, x.end(0));
         due("end 1 of nothing", false, x.end(1));
         due("end -1", false, x.end(-1));
@@ -129,7 +129,7 @@ public final class PromiseTests {
     // ---- Promise 4
 
     private static void read() {
-        FlowApply x = new FlowApply();
+        Subject x = new Subject();
         due("two functions", 2, Checks.read(x, "fun f g=g 1; f (\\x.x+2)"));
         due("read uses the tape up", 20, x.feed(0, 0, 0, 0, 0));
         x.end(0);
@@ -150,16 +150,16 @@ public final class PromiseTests {
         for (String text : new String[] {"\\x.x x", "1+(\\x.x)", "if (\\x.x) then 1 else 2",
             "if 1 then 2 else \\x.x", "(\\x.x) 1 2", "fun f x=f; 1", "let f=\\x.x in f f", "fun f x=x; f 1+f (\\y.y) 2",
             "\\f.f 1+f (\\x.x)", "fun f x=x+1; f f", "let x=1 in x dead", "fun f x=x x; 1", "\\x.\\y.x y+y x"}) {
-            due("untyped: " + text, CANNOT, Checks.read(new FlowApply(), text));
+            due("untyped: " + text, CANNOT, Checks.read(new Subject(), text));
         }
         for (String text : new String[] {"dead dead", "dead+1", "if dead then dead else \\x.x", "fun f x=f x; f 1",
             "let f=\\x.x in f 1+f 2", "let x=\\x.x in x dead", "\\x.\\y.x y", "fun f x=dead; fun g x=f g; 1"}) {
-            due("types: " + text, true, Checks.read(new FlowApply(), text) instanceof Integer);
+            due("types: " + text, true, Checks.read(new Subject(), text) instanceof Integer);
         }
     }
 
     private static void shows(String text, String want) {
-        FlowApply x = Checks.of(text);
+        Subject x = Checks.of(text);
         due("show of " + text, want, Checks.told(x, x::show));
     }
 
@@ -188,7 +188,7 @@ public final class PromiseTests {
     // ---- Promise 5
 
     private static void faultAt(int at, String text) {
-        FlowApply x = new FlowApply();
+        Subject x = new Subject();
         due("wrong: " + text, ILLEGAL, Checks.read(x, text));
         due("fault of " + text, at, x.fault());
     }
@@ -242,7 +242,7 @@ public final class PromiseTests {
         faultAt(8, "fun f x=g;fun g x=x;1");
         faultAt(2, "1 fun f x=1;1");
         faultAt(19, "fun f x=x;fun g y= x;1");
-        FlowApply x = new FlowApply();
+        Subject x = new Subject();
         Checks.read(x, "1+");
         due("fault of the latest", 2, x.fault());
         Checks.read(x, "1 2");
@@ -261,7 +261,7 @@ public final class PromiseTests {
         faultAt(60, seven + "fun g x=x;1");
         faultAt(60, seven + "fun a");
         String wide = times("(\\x.x) ", 17);
-        due("18 lambdas", 18, Checks.read(new FlowApply(), wide + "(\\x.x)"));
+        due("18 lambdas", 18, Checks.read(new Subject(), wide + "(\\x.x)"));
         faultAt(wide.length() + 8, wide + "(\\x.x) (\\x.x)");
         shows(times("(", 20) + "1" + times(")", 20), "1");
         faultAt(20, times("(", 21) + "1" + times(")", 21));
@@ -270,9 +270,9 @@ public final class PromiseTests {
             "(let x=1 in (if 1 then 2 else 3))");
         faultAt(17 + 28, times("(", 17) + "let x=1 in if 1 then 2 else(\\y.y)" + rest);
         faultAt(17 + 29, times("(", 17) + "let x=1 in if 1 then 2 else ((3))" + rest);
-        due("what ended does not nest", 0, Checks.read(new FlowApply(), times("(1)+", 24) + "(1)"));
+        due("what ended does not nest", 0, Checks.read(new Subject(), times("(1)+", 24) + "(1)"));
         due("an if lies around its ends only", 0,
-            Checks.read(new FlowApply(), times("(if 1 then 1 else 1)-", 12) + "1"));
+            Checks.read(new Subject(), times("(if 1 then 1 else 1)-", 12) + "1"));
         String sum = times("1+", 49);
         due("99 things", 99, Checks.of(sum + "1").count(3));
         faultAt(100, sum + "1+1");
@@ -301,7 +301,7 @@ public final class PromiseTests {
 
     private static void function() {
         // FUNCTIONS: f 0, g 1, dbl 2 (never made), then the LAMBDAS of h 3, y 4, z 5, u 6, w 7
-        FlowApply x = Checks.of("fun f h=h 1;fun g y=if y<1 then 0 else g (y-1);fun dbl n=g (n+n);"
+        Subject x = Checks.of("fun f h=h 1;fun g y=if y<1 then 0 else g (y-1);fun dbl n=g (n+n);"
             + "let k=5 in (\\h.\\y.h (y+k)) (\\z.z+k) 2 + f g + f (\\u.u) + (if 0 then (\\w.w) else g) 3");
         dueRow("f", functionRow(x, 0), -1, 1, 1, 1, 1 << 1 | 1 << 6, 0, 0, 0, 0, 1 << 1 | 1 << 6, -1, 0, 2);
         dueRow("g", functionRow(x, 1), -1, 1, 1, 1, 0, 0, 0, 1, 1, 1 << 1, 0, 0, 3);
@@ -317,22 +317,22 @@ public final class PromiseTests {
         due("function -1", BEYOND, Checks.answer(() -> x.function(-1, 0)));
         due("function and what", BEYOND, Checks.answer(() -> x.function(8, 13)));
         // A LAMBDA escapes, one within it is not looked at.
-        FlowApply y = Checks.of("if 1 then \\x.\\y.x+y else dead");
+        Subject y = Checks.of("if 1 then \\x.\\y.x+y else dead");
         dueRow("escapes", functionRow(y, 0), -1, 0, 1, 0, 0, 0, 0, 0, 0, 0, -1, 1, 0);
         dueRow("not made", functionRow(y, 1), 0, 0, 0, 0, 0, 0, 1, -1, -1, 0, -1, 0, 0);
         // Both ends of an if and what is behind in are looked at, an argument where nothing is applied, too.
-        FlowApply z = Checks.of("if 0 then dead (\\a.a+1) else let b=(\\c.c) in dead");
+        Subject z = Checks.of("if 0 then dead (\\a.a+1) else let b=(\\c.c) in dead");
         due("made everywhere in main", 3, z.count(5));
         due("nothing is called", 0, z.count(6));
         // The argument of one call comes at the other calls of the same function, too.
-        FlowApply w = Checks.of("fun id x=x;(if 1 then id (\\a.a) else id (\\b.b)) 3");
+        Subject w = Checks.of("fun id x=x;(if 1 then id (\\a.a) else id (\\b.b)) 3");
         due("what id has", 6, w.function(0, 4));
         due("what comes of id", 6, w.function(0, 5));
         due("both are called", 7, w.count(6));
     }
 
     private static void field() {
-        FlowApply x = Checks.of("fun f abcd=\\x.let y=x in \\z.z+y+abcd*y+(\\u.x+u) 1;f 1 2 3");
+        Subject x = Checks.of("fun f abcd=\\x.let y=x in \\z.z+y+abcd*y+(\\u.x+u) 1;f 1 2 3");
         due("fields of f", 0, x.function(0, 6));
         due("field of f", NONE_SUCH, Checks.answer(() -> x.field(0, 0)));
         due("fields of \\x", 1, x.function(1, 6));
@@ -346,7 +346,7 @@ public final class PromiseTests {
         due("field -1", NONE_SUCH, Checks.answer(() -> x.field(2, -1)));
         due("field of none", BEYOND, Checks.answer(() -> x.field(4, 9)));
         due("field of -1", BEYOND, Checks.answer(() -> x.field(-1, 0)));
-        FlowApply y = Checks.of("let x=1 in (\\y.(\\x.x+y) x) 2");
+        Subject y = Checks.of("let x=1 in (\\y.(\\x.x+y) x) 2");
         due("an own x and x from outside", 1, y.function(0, 6));
         due("x of the let", "x", Checks.told(y, () -> y.field(0, 0)));
         due("only y", "y", Checks.told(y, () -> y.field(1, 0)));
@@ -356,7 +356,7 @@ public final class PromiseTests {
     // ---- Promises 8 to 10
 
     private static void typesAs(String text, int f, String want) {
-        FlowApply x = Checks.of(text);
+        Subject x = Checks.of(text);
         due("type of " + f + " in " + text, want, Checks.told(x, () -> f < 0 ? x.typeOfMain() : x.type(f)));
     }
 
@@ -371,7 +371,7 @@ public final class PromiseTests {
         typesAs("\\x.if x then x else dead", 0, "(i>i)");
         typesAs("\\x.dead", 0, "(a>b)");
         typesAs("\\x.let y=x in y<1", 0, "(i>i)");
-        FlowApply x = Checks.of("\\x.x");
+        Subject x = Checks.of("\\x.x");
         due("type of none", BEYOND, Checks.answer(() -> x.type(1)));
         due("type of -1", BEYOND, Checks.answer(() -> x.type(-1)));
         // 18 and more open types: each argument of dead inside has one of its own.
@@ -383,7 +383,7 @@ public final class PromiseTests {
         typesAs(many.toString(), 0, want.toString());
         // let d=\x.\f.f x x in d (d (d .. 1)): a type that is written in far more than 300 bytes
         String pair = "(\\p.\\f.f p p)(";
-        FlowApply y = Checks.of(times(pair, 6) + "1" + times(")", 6));
+        Subject y = Checks.of(times(pair, 6) + "1" + times(")", 6));
         due("300 bytes of a long type", 300, y.typeOfMain());
         due("300 bytes shown", 300, Checks.shown(y).length());
         due("300 bytes of a function's", 300, y.type(0));
@@ -402,7 +402,7 @@ public final class PromiseTests {
     }
 
     private static void alike() {
-        FlowApply x = Checks.of("fun f x=x+1;fun g h=h 2;g f+g (\\u.u)+(\\v.\\w.v) 1 2");
+        Subject x = Checks.of("fun f x=x+1;fun g h=h 2;g f+g (\\u.u)+(\\v.\\w.v) 1 2");
         due("f and \\u", true, x.alike(0, 2));
         due("f and g", false, x.alike(0, 1));
         due("g and g", true, x.alike(1, 1));
@@ -410,11 +410,11 @@ public final class PromiseTests {
         due("f and \\w", true, x.alike(0, 4));
         due("none", BEYOND, Checks.answer(() -> x.alike(0, 5)));
         due("none first", BEYOND, Checks.answer(() -> x.alike(-1, 0)));
-        FlowApply y = Checks.of("let f=\\x.x in let g=\\y.y in if 1 then \\z.z else g");
+        Subject y = Checks.of("let f=\\x.x in let g=\\y.y in if 1 then \\z.z else g");
         due("open ones that are not one", false, y.alike(0, 1));
         due("open ones that are one", true, y.alike(1, 2));
         String pair = "(\\p.\\f.f p p)(";
-        FlowApply z = Checks.of(times(pair, 6) + "1" + times(")", 6));
+        Subject z = Checks.of(times(pair, 6) + "1" + times(")", 6));
         due("large ones", false, z.alike(0, 2));
         due("a large one and itself", true, z.alike(1, 1));
     }
@@ -422,7 +422,7 @@ public final class PromiseTests {
     // ---- Promise 11
 
     private static void site() {
-        FlowApply x = Checks.of("fun f h=h (h 1);fun no x=f x;(if 1 then f else f) (\\a.a) + f (\\b.b) + dead 1 + dead (\\c.c 1)");
+        Subject x = Checks.of("fun f h=h (h 1);fun no x=f x;(if 1 then f else f) (\\a.a) + f (\\b.b) + dead 1 + dead (\\c.c 1)");
         dueRow("the outer h", siteRow(x, 0), 0, 12, 0, 0, 1, 0, 1);
         dueRow("the inner h", siteRow(x, 1), 0, 12, 0, 0, 1, 0, 1);
         dueRow("in no", siteRow(x, 2), 1, 0, 0, 0, -1, 0, 0);
@@ -436,7 +436,7 @@ public final class PromiseTests {
         due("what 7", NONE_SUCH, Checks.answer(() -> x.site(0, 7)));
         due("what -1", NONE_SUCH, Checks.answer(() -> x.site(0, -1)));
         due("site and what", BEYOND, Checks.answer(() -> x.site(8, 7)));
-        FlowApply y = Checks.of("(\\x.x) ((\\y.y) (\\z.z)) 1");
+        Subject y = Checks.of("(\\x.x) ((\\y.y) (\\z.z)) 1");
         dueRow("x of y", siteRow(y, 0), -1, 1, 4, 4, 0, 1, 1);
         dueRow("y of z", siteRow(y, 1), -1, 2, 4, 4, 1, 1, 1);
         dueRow("all of 1", siteRow(y, 2), -1, 4, 0, 0, 2, 1, 1);
@@ -449,7 +449,7 @@ public final class PromiseTests {
 
     private static void split() {
         // made: f 0, h 1, \a 3, \b 4, \c 5, \d 6, \e 7, \m 8 (never called); never made: w 2
-        FlowApply x = Checks.of(SPLIT);
+        Subject x = Checks.of(SPLIT);
         dueRow("split 0", splitRow(x, 0), 1, 1, 7, 7, 1);
         // f and \m : ((i>i)>i) and ((i>a)>a); \c, \e : (i>(i>i)); h, \a, \b, \d : (i>i)
         dueRow("split 1", splitRow(x, 1), 4, 3, 7, 4, 1);
@@ -466,7 +466,7 @@ public final class PromiseTests {
     }
 
     private static void group() {
-        FlowApply x = Checks.of(SPLIT);
+        Subject x = Checks.of(SPLIT);
         due("0 of split 0", 0x1fb, x.group(0, 0, false));
         due("cases of it", 0xfb, x.group(0, 0, true));
         due("0 of split 1", 1, x.group(1, 0, false));
@@ -483,7 +483,7 @@ public final class PromiseTests {
         due("split 3", ILLEGAL, Checks.answer(() -> x.group(3, 9, false)));
         due("split -1", ILLEGAL, Checks.answer(() -> x.group(-1, 0, true)));
         // From one to another: a with b at one site, b with c at another.
-        FlowApply y = Checks.of("let a=\\x.x in let b=\\x.x in let c=\\x.x in"
+        Subject y = Checks.of("let a=\\x.x in let b=\\x.x in let c=\\x.x in"
             + "(if 1 then a else b) 1+(if 1 then b else c) 2+(\\x.x) 3");
         due("a, b, c", 7, y.group(2, 0, false));
         due("alone", 8, y.group(2, 1, false));
@@ -491,10 +491,10 @@ public final class PromiseTests {
         String four = "let a=\\x.x in let b=\\x.x in let c=\\x.x in let d=\\x.x in ";
         due("by way of a", 7, Checks.of(four + "(if 1 then a else b) 1+(if 1 then a else c) 2").group(2, 0, false));
         due("by way of c", 7, Checks.of(four + "(if 1 then a else c) 1+(if 1 then b else c) 2").group(2, 0, false));
-        FlowApply z = Checks.of(four + "(if 1 then a else c) 1+(if 1 then b else d) 2");
+        Subject z = Checks.of(four + "(if 1 then a else c) 1+(if 1 then b else d) 2");
         due("a and c", 5, z.group(2, 0, false));
         due("b and d", 10, z.group(2, 1, false));
-        FlowApply w = Checks.of(four + "(if 1 then a else c) 1+(if 1 then b else d) 2+(if 1 then c else b) 3");
+        Subject w = Checks.of(four + "(if 1 then a else c) 1+(if 1 then b else d) 2+(if 1 then c else b) 3");
         due("all of them", 15, w.group(2, 0, false));
         due("one GROUP", 1, w.split(2, 0));
     }
@@ -502,15 +502,15 @@ public final class PromiseTests {
     // ---- Promises 14 and 15
 
     private static void run() {
-        FlowApply x = Checks.of("fun fac n=if n<2 then 1 else n*fac (n-1);fac 5");
+        Subject x = Checks.of("fun fac n=if n<2 then 1 else n*fac (n-1);fac 5");
         for (int how = 0; how < 4; how++) dueRow("fac 5 by " + how, runRow(x, how), 0, 120, 5, 5, 1);
-        FlowApply y = Checks.of("fun f x=\\y.x;f 1");
+        Subject y = Checks.of("fun f x=\\y.x;f 1");
         for (int how = 0; how < 4; how++) dueRow("a function by " + how, runRow(y, how), 1, 1, 1, 1, 1);
-        FlowApply z = Checks.of("let k=(\\x.\\y.x*10+y) in k 3 4 + k 1 2");
+        Subject z = Checks.of("let k=(\\x.\\y.x*10+y) in k 3 4 + k 1 2");
         for (int how = 0; how < 4; how++) dueRow("fields by " + how, runRow(z, how), 0, 46, 4, 1, 3);
-        FlowApply w = Checks.of("let x=1 in let f=\\y.x+y in let x=10 in f x");
+        Subject w = Checks.of("let x=1 in let f=\\y.x+y in let x=10 in f x");
         dueRow("the x of where it was made", runRow(w, 2), 0, 11, 1, 1, 1);
-        FlowApply v = Checks.of("fun c n=\\f.if n<1 then f 0 else c (n-1) (\\k.f (k+n));c 3 (\\r.r*2)");
+        Subject v = Checks.of("fun c n=\\f.if n<1 then f 0 else c (n-1) (\\k.f (k+n));c 3 (\\r.r*2)");
         for (int how = 0; how < 4; how++) dueRow("one that stays, by " + how, runRow(v, how), 0, 12, 12, 8, 15);
         for (int how : new int[] {-1, 4, Integer.MAX_VALUE, Integer.MIN_VALUE}) {
             due("how " + how, ILLEGAL, Checks.answer(() -> x.run(how, 0)));
@@ -522,7 +522,7 @@ public final class PromiseTests {
     }
 
     private static void numbers(String text, int want) {
-        FlowApply x = Checks.of(text);
+        Subject x = Checks.of(text);
         for (int how = 0; how < 4; how++) {
             due("ending of " + text, 0, x.run(how, 0));
             due("number of " + text, want, x.run(how, 1));
@@ -552,7 +552,7 @@ public final class PromiseTests {
         ends("fun f x=if x then 1+f (x-1) else 0;f 99", 0, 100, 100);
         ends("fun f x=if x then 1+f (x-1) else 0;f 100", 4, 100, 100);
         ends("fun f x=if x then f (x-1) else (\\y.y) 0;f 99", 4, 100, 100);
-        FlowApply last = Checks.of("fun f x=if x then f (x-1) else (\\y.y) 0;f 99");
+        Subject last = Checks.of("fun f x=if x then f (x-1) else (\\y.y) 0;f 99");
         due("the 101st is not entered", 1, last.run(0, 4));
         ends("fun f x=if x then f (x-1) else (\\y.y) dead;f 99", 3, 100, 100);
         due("a number of no ending", 0, Checks.of("1/0").run(0, 1));
@@ -565,7 +565,7 @@ public final class PromiseTests {
     }
 
     private static void ends(String text, int ending, int steps, int deep) {
-        FlowApply x = Checks.of(text);
+        Subject x = Checks.of(text);
         for (int how = 0; how < 4; how++) {
             due("ending of " + text, ending, x.run(how, 0));
             due("steps of " + text, steps, x.run(how, 2));
@@ -574,9 +574,9 @@ public final class PromiseTests {
     }
 
     private static void blame() {
-        FlowApply x = Checks.of("fun f x=f x;1");
+        Subject x = Checks.of("fun f x=f x;1");
         due("no blame of a number", -1, x.blame(0, 0));
-        FlowApply y = Checks.of("fun low x=x/0;fun mid x=1+(\\y.low y) x;(\\z.z) 1+mid 3");
+        Subject y = Checks.of("fun low x=x/0;fun mid x=1+(\\y.low y) x;(\\z.z) 1+mid 3");
         for (int how = 0; how < 4; how++) {
             due("steps", 4, y.run(how, 2));
             due("innermost", 0, y.blame(how, 0));
@@ -586,12 +586,12 @@ public final class PromiseTests {
             due("none below", -1, y.blame(how, -1));
             due("far beyond", -1, y.blame(how, Integer.MAX_VALUE));
         }
-        FlowApply z = Checks.of("fun l x=l x;l 0");
+        Subject z = Checks.of("fun l x=l x;l 0");
         due("the last of a hundred", 0, z.blame(2, 99));
         due("not a hundred and one", -1, z.blame(2, 100));
-        FlowApply w = Checks.of("(\\x.x) dead");
+        Subject w = Checks.of("(\\x.x) dead");
         due("not entered yet", -1, w.blame(0, 0));
-        FlowApply v = Checks.of("(\\x.x) 1+dead");
+        Subject v = Checks.of("(\\x.x) 1+dead");
         due("left", -1, v.blame(0, 0));
         due("a function that ends it", -1, Checks.of("\\x.x").blame(1, 0));
     }
@@ -599,7 +599,7 @@ public final class PromiseTests {
     // ---- Promises 16 to 19
 
     private static void forms(String text, int split, String want) {
-        FlowApply x = Checks.of(text);
+        Subject x = Checks.of(text);
         due("form " + split + " of " + text, want, Checks.told(x, () -> x.form(split)));
     }
 
@@ -620,16 +620,16 @@ public final class PromiseTests {
         // A GROUP without CASES has its number all the same.
         forms("let u=\\x.x+1 in (\\v.\\w.1) 2", 2, "a1:{C1()v.C2()}(let u=C0() in a1(C1(),2))");
         forms("let x=1 in let y=2 in (\\z.y+x+z+y) 3", 0, "a0:{C0(y,x)z.(((y+x)+z)+y)}(let x=1 in (let y=2 in a0(C0(y,x),3)))");
-        FlowApply x = Checks.of("1");
+        Subject x = Checks.of("1");
         due("form 3", ILLEGAL, Checks.answer(() -> x.form(3)));
         due("form -1", ILLEGAL, Checks.answer(() -> x.form(-1)));
         due("nothing shown by it", 0, x.count(10));
     }
 
     private static void backs(String text, String want) {
-        FlowApply x = Checks.of(text);
+        Subject x = Checks.of(text);
         due("back of " + text, want, Checks.told(x, x::back));
-        due("the program stays behind back of " + text, x.count(0) + x.count(1), (int) Checks.read(new FlowApply(), text));
+        due("the program stays behind back of " + text, x.count(0) + x.count(1), (int) Checks.read(new Subject(), text));
     }
 
     private static void back() {
@@ -644,16 +644,16 @@ public final class PromiseTests {
         shows("\\x.\\y.x+y", "(\\x.(\\y.(x+y)))");
         shows("fun f x=let y=x in dead;fun g x=if x then f x else g x;1",
             "fun f x=(let y=x in dead);fun g x=(if x then (f x) else (g x));1");
-        FlowApply x = Checks.of("2");
+        Subject x = Checks.of("2");
         due("bytes of show", 1, x.show());
         due("shown", 50, x.octet(0));
         // Far longer than 400 bytes: each operator has its ( ).
-        FlowApply y = Checks.of(times("1+", 49) + "1");
+        Subject y = Checks.of(times("1+", 49) + "1");
         due("a long one", 50 + 49 * 3, y.show());
     }
 
     private static void take() {
-        FlowApply x = Checks.of("fun f x=x;fun g y=\\a.f y;fun h z=\\b.b;(\\c.h c) 1 2+(let d=g in 3)");
+        Subject x = Checks.of("fun f x=x;fun g y=\\a.f y;fun h z=\\b.b;(\\c.h c) 1 2+(let d=g in 3)");
         due("functions ahead", 6, x.count(0) + x.count(1));
         x.show();
         due("take", 4, x.take());
@@ -671,12 +671,12 @@ public final class PromiseTests {
         due("take again", 4, x.take());
         due("again the same", "fun g y=dead;fun h z=(\\b.b);((((\\c.(h c)) 1) 2)+(let d=g in 3))", Checks.told(x, x::show));
         // What needs more than 400 bytes to be written and more than 20 ( within one another is taken all the same.
-        FlowApply y = Checks.of(times("1+", 30) + "(\\x." + times("x+", 17) + "x) 1");
+        Subject y = Checks.of(times("1+", 30) + "(\\x." + times("x+", 17) + "x) 1");
         int ahead = y.back();
         due("take of a long one", 1, y.take());
         due("as long as before", ahead, y.show());
         due("its run", 48, y.run(0, 1));
-        FlowApply z = Checks.of("\\x.\\y.x+y");
+        Subject z = Checks.of("\\x.\\y.x+y");
         due("type ahead", "(i>(i>i))", Checks.told(z, z::typeOfMain));
         due("one is left", 1, z.take());
         due("type behind", "(a>b)", Checks.told(z, z::typeOfMain));
@@ -695,7 +695,7 @@ public final class PromiseTests {
 
     private static void ring() {
         // FUNCTIONS: self 0, even 1, odd 2, no 3, then the LAMBDAS of n 4, m 5, u 6, v 7
-        FlowApply x = Checks.of(RINGS);
+        Subject x = Checks.of(RINGS);
         due("rings", 3, x.count(9));
         due("self", 1, x.ring(0));
         due("odd and \\m", 1 << 2 | 1 << 5, x.ring(1));
@@ -710,7 +710,7 @@ public final class PromiseTests {
     }
 
     private static void far() {
-        FlowApply x = Checks.of(RINGS);
+        Subject x = Checks.of(RINGS);
         due("self to itself", 0, x.far(0, 0));
         due("odd to self", 1, x.far(2, 0));
         due("odd to \\m", 1, x.far(2, 5));
@@ -729,7 +729,7 @@ public final class PromiseTests {
     // ---- Promises 22 and 23
 
     private static void octet() {
-        FlowApply x = Checks.of("\\x.1");
+        Subject x = Checks.of("\\x.1");
         due("nothing shown", -1, x.octet(0));
         x.show();
         due("the first", (int) '(', x.octet(0));
@@ -745,7 +745,7 @@ public final class PromiseTests {
     }
 
     private static void count() {
-        FlowApply x = Checks.of("fun f g=\\x.g (g x);fun no x=x;let k=1 in f (f (\\y.y+k))");
+        Subject x = Checks.of("fun f g=\\x.g (g x);fun no x=x;let k=1 in f (f (\\y.y+k))");
         // f 0, no 1, \x 2, \y 3
         int[] want = {2, 2, 4, 17, 1 << 2, 1 | 1 << 2 | 1 << 3, 1, 2, 2, 0, 0, 2, 10};
         for (int k = 0; k < want.length; k++) due("count " + k, want[k], x.count(k));

@@ -43,7 +43,7 @@ final class Sentences {
         Checks.close(name);
     }
 
-    static FlowApply of(String text) { return Checks.of(text); }
+    static Subject of(String text) { return Checks.of(text); }
 
     static Object answer(Supplier<Object> call) { return Checks.answer(call); }
 
@@ -51,7 +51,7 @@ final class Sentences {
 
     /** How a read of the text goes: how many FUNCTIONS, where the fault is, or the exception of one that does not TYPE. */
     static String reading(String text) {
-        FlowApply x = new FlowApply();
+        Subject x = new Subject();
         Object got = Checks.read(x, text);
         if (got.equals(ILLEGAL)) return "wrong at " + x.fault();
         return (x.fault() == -1 ? "" : "fault " + x.fault() + " of ") + got;
@@ -65,25 +65,25 @@ final class Sentences {
 
     static void shows(String want, String text) { due("show of " + text, want, show(of(text))); }
 
-    static String show(FlowApply x) { return String.valueOf(Checks.told(x, x::show)); }
+    static String show(Subject x) { return String.valueOf(Checks.told(x, x::show)); }
 
     static String back(String text) {
-        FlowApply x = of(text);
+        Subject x = of(text);
         return String.valueOf(Checks.told(x, x::back));
     }
 
     static String form(int split, String text) {
-        FlowApply x = of(text);
+        Subject x = of(text);
         return String.valueOf(Checks.told(x, () -> x.form(split)));
     }
 
     static String typeOf(int f, String text) {
-        FlowApply x = of(text);
+        Subject x = of(text);
         return String.valueOf(Checks.told(x, () -> x.type(f)));
     }
 
     static String typeOfMain(String text) {
-        FlowApply x = of(text);
+        Subject x = of(text);
         return String.valueOf(Checks.told(x, x::typeOfMain));
     }
 
@@ -97,39 +97,39 @@ final class Sentences {
         return out.toString();
     }
 
-    static String functionRow(FlowApply x, int f) { return row(13, what -> x.function(f, what)); }
+    static String functionRow(Subject x, int f) { return row(13, what -> x.function(f, what)); }
 
-    static String siteRow(FlowApply x, int site) { return row(7, what -> x.site(site, what)); }
+    static String siteRow(Subject x, int site) { return row(7, what -> x.site(site, what)); }
 
-    static String splitRow(FlowApply x, int split) { return row(5, what -> x.split(split, what)); }
+    static String splitRow(Subject x, int split) { return row(5, what -> x.split(split, what)); }
 
-    static String groupRow(FlowApply x, int split) { return row(x.split(split, 0), k -> x.group(split, k, false)); }
+    static String groupRow(Subject x, int split) { return row(x.split(split, 0), k -> x.group(split, k, false)); }
 
-    static String caseRow(FlowApply x, int split) { return row(x.split(split, 0), k -> x.group(split, k, true)); }
+    static String caseRow(Subject x, int split) { return row(x.split(split, 0), k -> x.group(split, k, true)); }
 
-    static String runRow(FlowApply x, int how) { return row(5, what -> x.run(how, what)); }
+    static String runRow(Subject x, int how) { return row(5, what -> x.run(how, what)); }
 
-    static String blameRow(FlowApply x, int how) {
+    static String blameRow(Subject x, int how) {
         int many = 0;
         while (x.blame(how, many) != -1) many++;
         return row(many, k -> x.blame(how, k));
     }
 
-    static String ringRow(FlowApply x) { return row(x.count(9), x::ring); }
+    static String ringRow(Subject x) { return row(x.count(9), x::ring); }
 
-    static String fieldRow(FlowApply x, int f) {
+    static String fieldRow(Subject x, int f) {
         return row(x.function(f, 6), k -> Checks.told(x, () -> x.field(f, k)));
     }
 
     /** The run of the program and of its three forms: how it ends, the answer, STEPS, DEEP, what was entered. */
     static void runs(String want, String text) {
-        FlowApply x = of(text);
+        Subject x = of(text);
         for (int how = 0; how < 4; how++) due("run " + how + " of " + text, want, runRow(x, how));
     }
 
     static void runsBlaming(String want, String blame, String text) {
         runs(want, text);
-        FlowApply x = of(text);
+        Subject x = of(text);
         for (int how = 0; how < 4; how++) due("blame " + how + " of " + text, blame, blameRow(x, how));
     }
 }

@@ -13,11 +13,11 @@ public final class SweepTests {
         int many = args.length > 0 ? Integer.parseInt(args[0]) : 3000;
         long seed = args.length > 1 ? Long.parseLong(args[1]) : 1;
         int[] kinds = new int[4];
-        FlowApply reused = new FlowApply();
+        Subject reused = new Subject();
         for (int k = 0; k < many; k++) {
             SweepTests sweep = new SweepTests(seed * 1000003 + k);
             byte[] text = sweep.text(k);
-            kinds[hold(k % 3 == 0 ? reused : new FlowApply(), text)]++;
+            kinds[hold(k % 3 == 0 ? reused : new Subject(), text)]++;
         }
         System.out.println("sweep: wrong " + kinds[0] + ", untyped " + kinds[1] + ", runs " + kinds[2] + ", too long " + kinds[3]);
         System.out.println("of the runs: " + met);
@@ -33,7 +33,7 @@ public final class SweepTests {
 
     // ---- one text
 
-    private static int hold(FlowApply x, byte[] text) {
+    private static int hold(Subject x, byte[] text) {
         String name = new String(text, java.nio.charset.StandardCharsets.ISO_8859_1);
         if (text.length > 400) return 3;
         Object before = Checks.told(x, x::show);
@@ -69,7 +69,7 @@ public final class SweepTests {
         }
     }
 
-    private static void compare(String name, FlowApply x, Model m) {
+    private static void compare(String name, Subject x, Model m) {
         compareCounts(name, x, m);
         for (int f = 0; f < m.fns.size(); f++) compareFunction(name + ", function " + f, x, m, m.fns.get(f));
         for (int s = 0; s < m.sites.size(); s++) compareSite(name + ", site " + s, x, m, s);
@@ -87,7 +87,7 @@ public final class SweepTests {
         Checks.due(name + " main's type", Model.told(m.mainType), Checks.told(x, x::typeOfMain));
     }
 
-    private static void compareCounts(String name, FlowApply x, Model m) {
+    private static void compareCounts(String name, Subject x, Model m) {
         int fields = 0;
         for (Model.Fn f : m.made) fields += Model.fieldsOf(f).size();
         int looked = 0;
@@ -126,7 +126,7 @@ public final class SweepTests {
         }
     }
 
-    private static void compareFunction(String name, FlowApply x, Model m, Model.Fn f) {
+    private static void compareFunction(String name, Subject x, Model m, Model.Fn f) {
         List<java.util.Set<Model.Fn>> rings = m.rings();
         int ring = -1;
         for (int k = 0; k < rings.size(); k++) if (rings.get(k).contains(f)) ring = k;
@@ -152,7 +152,7 @@ public final class SweepTests {
         }
     }
 
-    private static void compareSite(String name, FlowApply x, Model m, int s) {
+    private static void compareSite(String name, Subject x, Model m, int s) {
         Model.Tree site = m.sites.get(s);
         boolean looked = m.looked(site.owner);
         int group = -1;
@@ -163,7 +163,7 @@ public final class SweepTests {
         for (int k = 0; k < want.length; k++) Checks.due(name + " what " + k, want[k], x.site(s, k));
     }
 
-    private static void compareSplit(String name, FlowApply x, Model m, int split) {
+    private static void compareSplit(String name, Subject x, Model m, int split) {
         List<java.util.Set<Model.Fn>> groups = m.groups(split);
         int withCases = 0;
         int most = 0;
@@ -183,7 +183,7 @@ public final class SweepTests {
         Checks.due(name + " form", m.form(split), Checks.told(x, () -> x.form(split)));
     }
 
-    private static void compareRun(String name, FlowApply x, Model m, int how) {
+    private static void compareRun(String name, Subject x, Model m, int how) {
         Model.Run run = m.new Run(how);
         int[] want = {run.ending, run.result, run.steps, run.deep, run.entered};
         for (int k = 0; k < want.length; k++) Checks.due(name + " run " + k, want[k], x.run(how, k));

@@ -43,7 +43,7 @@ public final class TextSentenceTests {
 
     private static void runs(String want, String text) { Sentences.runs(want, text); }
 
-    private static FlowApply of(String text) { return Sentences.of(text); }
+    private static Subject of(String text) { return Sentences.of(text); }
 
     private static String times(int many, String text) { return text.repeat(many); }
 
@@ -154,7 +154,7 @@ public final class TextSentenceTests {
         wrongAt(1, "1;");
         wrongAt(2, "1 fun f x=1;1");
         sentence("(The functions told by fun are GLOBALS; the last EXPR is MAIN.)");
-        FlowApply x = of("fun f x=dead;7");
+        Subject x = of("fun f x=dead;7");
         due("GLOBALS", 1, x.count(0));
         due("LAMBDAS", 0, x.count(1));
         due("MAIN is what runs", "0 7 0 0 0", Sentences.runRow(x, 0));
@@ -438,16 +438,16 @@ public final class TextSentenceTests {
 
     private static void numbering() {
         sentence("FUNCTIONS: GLOBALS, then LAMBDAS, numbered from 0 on as they begin in the text.");
-        FlowApply x = of("fun f a=\\b.\\c.b;fun g d=\\e.e;(\\h.\\i.h) (\\j.j)");
+        Subject x = of("fun f a=\\b.\\c.b;fun g d=\\e.e;(\\h.\\i.h) (\\j.j)");
         due("GLOBALS first", "1 1 0 0 0 0 0 0 IndexOutOfBounds", Sentences.row(9, f -> x.function(f, 1)));
         due("as they begin", "-1 -1 0 2 1 -1 5 -1", Sentences.row(8, f -> x.function(f, 0)));
         due("the outer ahead of the inner", 1 | 4, of("dead (\\a.\\b.a) (\\c.c)").count(5));
         sentence("HOME of a LAMBDA, of a SITE: the FUNCTION in whose EXPR it is written (the innermost), or MAIN.");
         due("LAMBDAS within LAMBDAS", "-1 0 1 1", Sentences.row(4, f -> of("\\a.\\b.dead (\\c.c) (\\d.d)").function(f, 0)));
-        FlowApply y = of("fun f a=dead 1 (\\b.dead 2);dead 3 (\\c.let d=dead 4 in if dead 5 then 6 else dead 7)");
+        Subject y = of("fun f a=dead 1 (\\b.dead 2);dead 3 (\\c.let d=dead 4 in if dead 5 then 6 else dead 7)");
         due("SITES", "0 0 1 -1 -1 2 2 2 IndexOutOfBounds", Sentences.row(9, site -> y.site(site, 0)));
         sentence("SITES are numbered from 0 on as their arguments begin.");
-        FlowApply z = of("(\\a.a) ((\\b.b) (\\c.c)) ((\\d.d) (\\e.e)) (\\g.g)");
+        Subject z = of("(\\a.a) ((\\b.b) (\\c.c)) ((\\d.d) (\\e.e)) (\\g.g)");
         // their arguments: (\b.b) (\c.c); \c; (\d.d) (\e.e); \e; \g
         due("what comes as the arguments", "4 4 16 16 32", Sentences.row(5, site -> z.site(site, 2)));
     }
@@ -510,7 +510,7 @@ public final class TextSentenceTests {
         due("of one within, from a on", "((a>b)>(a>c))", Sentences.typeOf(1, "\\f.\\g.\\x.f (g x)"));
         due("of the innermost, from a on", "(a>b)", Sentences.typeOf(2, "\\f.\\g.\\x.f (g x)"));
         due("of MAIN, from a on", "(a>b)", Sentences.typeOfMain("fun f x=\\y.y;\\x.dead"));
-        FlowApply x = of("\\f.\\g.\\x.f (g x)");
+        Subject x = of("\\f.\\g.\\x.f (g x)");
         due("one told behind another", "((a>b)>((c>a)>(c>b))) ((a>b)>(a>c)) (a>b)",
             Sentences.row(3, f -> Checks.told(x, () -> x.type(f))));
         for (int many : new int[] {1, 2, 24, 25, 26, 27, 28, 40}) {
@@ -529,11 +529,11 @@ public final class TextSentenceTests {
         // A TYPE of n arrows has 4 n + 1 bytes. \g.g and 19 dead: 20 arrows; \f.f v v v and 10 or 11 dead: 74 or 75.
         String twenty = "\\g.g" + times(19, " dead");
         due("20 arrows", 81, of(twenty).typeOfMain());
-        FlowApply x = of("let v=" + twenty + " in \\f.f v v v" + times(10, " dead"));
+        Subject x = of("let v=" + twenty + " in \\f.f v v v" + times(10, " dead"));
         due("297 bytes", 297, x.typeOfMain());
         due("to the end", ")))>z)", Checks.shown(x).substring(291));
         due("297 of the LAMBDA", 297, x.type(1));
-        FlowApply y = of("let v=" + twenty + " in \\f.f v v v" + times(11, " dead"));
+        Subject y = of("let v=" + twenty + " in \\f.f v v v" + times(11, " dead"));
         due("301 are 300", 300, y.typeOfMain());
         String shown = Checks.shown(y);
         due("the last one is missing", ")))>z", shown.substring(295));
@@ -542,7 +542,7 @@ public final class TextSentenceTests {
         due("the same", shown, Checks.shown(y));
         due("a short one", 81, y.type(0));
         // each (\p.\f.f p p) makes a TYPE twice as long
-        FlowApply z = of(times(8, "(\\p.\\f.f p p)(") + "1" + times(8, ")"));
+        Subject z = of(times(8, "(\\p.\\f.f p p)(") + "1" + times(8, ")"));
         due("far more", 300, z.typeOfMain());
         due("of a FUNCTION", 300, z.type(0));
     }

@@ -20,8 +20,8 @@ public final class WildTests {
     public static void main(String[] args) {
         for (int k = 0; k < 300; k++) {
             Random chance = new Random(k);
-            FlowApply x = new FlowApply();
-            for (int calls = 0; calls < 500; calls++) call(x, chance);
+            Subject x = new Subject(true);
+            while (x.left() > 8) call(x, chance);
         }
         Checks.close("WildTests");
     }
@@ -30,7 +30,7 @@ public final class WildTests {
         return chance.nextInt(20) == 0 ? chance.nextInt() : EDGES[chance.nextInt(EDGES.length)];
     }
 
-    private static void call(FlowApply x, Random chance) {
+    private static void call(Subject x, Random chance) {
         int a = any(chance);
         int b = any(chance);
         switch (chance.nextInt(24)) {
