@@ -612,6 +612,13 @@ public final class CallSentenceTests {
             due("THE PROGRAM", back, Sentences.show(x));
             due("all as of that text", state(y), state(x));
         }
+        Subject z = alone(text);
+        Checks.read(z, "1+)");
+        z.feed(0x20202037, 0x20202020, 0x20202020, 0x20202020, 0x20202020);
+        z.take();
+        due("the fault is of the latest read", 2, z.fault());
+        due("the TAPE is left", 0, z.read());
+        due("what it was", "7", Sentences.show(z));
         due("none is left", 0, of("fun f x=x;1").take());
         due("all are left", 2, of("fun f x=x;f ((\\y.y) 1)").take());
     }
