@@ -101,6 +101,7 @@ public final class FlowApply {
         now = spare;
         spare = old;
         shown.clear();
+        machine.forget();
         return now.program.functions;
     }
 
@@ -390,6 +391,13 @@ public final class FlowApply {
             clear();
             for (int k = 0; k < many; k++) {
                 add(number);
+            }
+        }
+
+        /** So many numbers once more from another place on. */
+        void repeat(int from, int to, int many) {
+            if (many >= 0 && from >= 0 && to >= 0 && from <= size - many && to <= size - many && size <= cells.length) {
+                System.arraycopy(cells, from, cells, to, many);
             }
         }
 
@@ -1496,6 +1504,8 @@ public final class FlowApply {
         private final Row values = new Row(MOST_WAITING);
         private final Row inside = new Row(MOST_STEPS);
         private final Row framesInside = new Row(MOST_STEPS);
+        // Much is asked of one RUN, a number at a time: it is kept while the program is.
+        private int performed = NONE;
         private int applicable = 0;
         private int ending = NONE;
         private int result = 0;
@@ -1509,6 +1519,10 @@ public final class FlowApply {
 
         /** How 0 runs the program, where every FUNCTION can be applied, others a form, where those can that are CASES. */
         void perform(Scene scene, int how) {
+            if (performed == how) {
+                return;
+            }
+            performed = how;
             clear();
             applicable = how == 0 ? NONE : scene.groups.allCases(how - 1, scene.flow.called);
             begin(scene.program.main, 0);
@@ -1524,6 +1538,10 @@ public final class FlowApply {
             if (ending == NONE) {
                 finish(scene.typing.isInt(scene.typing.ofThing.at(scene.program.main)));
             }
+        }
+
+        void forget() {
+            performed = NONE;
         }
 
         private void clear() {
@@ -1660,7 +1678,7 @@ public final class FlowApply {
         private void enter(Program program, int applied, int argument) {
             int function = functionOf(applied);
             steps++;
-            copyFrame(applied >>> 5, steps);
+            frames.repeat((applied >>> 5) * MOST_VARS, steps * MOST_VARS, MOST_VARS);
             frames.set(steps * MOST_VARS + function, argument);
             inside.add(function);
             framesInside.add(steps);
@@ -1668,12 +1686,6 @@ public final class FlowApply {
             entered |= bit(function);
             tasks.add(LEAVE);
             begin(program.bodies.at(function), 0);
-        }
-
-        private void copyFrame(int from, int to) {
-            for (int v = 0; v < MOST_VARS; v++) {
-                frames.set(to * MOST_VARS + v, frames.at(from * MOST_VARS + v));
-            }
         }
     }
 

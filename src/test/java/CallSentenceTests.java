@@ -544,11 +544,13 @@ public final class CallSentenceTests {
         for (int k = 0; k < 100; k++) due("what waits", 4, x.run(k % 4, 0));
         due("the 101st run", "4 0 100 100 1", Sentences.runRow(x, 0));
         due("one behind it", 1, Checks.read(x, "(\\x.1+x*2) 3"));
-        due("one behind it", "0 7 1 1 1", Sentences.runRow(x, 2));
+        due("one behind it", "0 7 1 1 1", Sentences.runRow(x, 0));
         due("nothing entered", 0, Checks.read(x, "5"));
         due("nothing entered", "0 5 0 0 0", Sentences.runRow(x, 0));
         due("no NUMBER", 0, Checks.read(x, "dead"));
-        due("no NUMBER", "3 0 0 0 0", Sentences.runRow(x, 1));
+        due("no NUMBER", "3 0 0 0 0", Sentences.runRow(x, 0));
+        due("a read that throws", ILLEGAL, Checks.read(x, "1+"));
+        due("it is as it was", "3 0 0 0 0", Sentences.runRow(x, 0));
     }
 
     /** The last of 24 FUNCTIONS is entered. */
@@ -619,6 +621,12 @@ public final class CallSentenceTests {
         due("the fault is of the latest read", 2, z.fault());
         due("the TAPE is left", 0, z.read());
         due("what it was", "7", Sentences.show(z));
+        for (int how = 0; how < 4; how++) {
+            Subject w = alone("fun f x=x;fun g x=\\y.x;g 1");
+            due("the run ahead", "1 2 1 1 2", Sentences.runRow(w, how));
+            w.take();
+            due("the run of BACK", "1 1 1 1 1", Sentences.runRow(w, how));
+        }
         due("none is left", 0, of("fun f x=x;1").take());
         due("all are left", 2, of("fun f x=x;f ((\\y.y) 1)").take());
     }

@@ -18,6 +18,7 @@ public final class FlowSentenceTests {
         blame();
         formCases();
         formData();
+        formMade();
         formSites();
         back();
         written();
@@ -330,6 +331,19 @@ public final class FlowSentenceTests {
 
     private static void formIs(int split, String want, String text) { due("form " + split + " of " + text, want, Sentences.form(split, text)); }
 
+    private static void formData() {
+        sentence("FUNCTIONS are DATA: the FUNCTION's number and what its FIELDS have; a SITE applies by the APPLY of the GROUP of the DATA");
+        // each has what its FIELDS had where it was made, however often and wherever it is applied
+        runs("0 37 4 1 3", "fun k x=\\y.x*10+y;let a=k 1 in let b=k 2 in a 3+b 4");
+        runs("0 43 4 1 3", "fun k x=\\y.x*10+y;let a=k 1 in let b=k 2 in b 3+a 10");
+        runs("0 11 1 1 1", "let x=1 in let f=\\y.x+y in let x=10 in f x");
+        runs("0 12 12 8 15", "fun c n=\\f.if n<1 then f 0 else c (n-1) (\\k.f (k+n));c 3 (\\r.r*2)");
+        runs("0 321 5 3 31", "fun t a=\\b.\\c.a+b*10+c*100;fun p q=(\\u.q u) 3;let f=t 1 in p (f 2)");
+        sentence("runs of the program and of its form without functions, that answer alike");
+        runs("2 0 7 3 15", "fun f g=g 1/g 0;let k=1 in f (\\x.x+k)+(\\y.f y) (\\z.0)+dead (\\w.w)");
+        runs("1 1 1 1 1", "(\\x.\\y.x) 1");
+    }
+
     private static void formCases() {
         sentence("for each GROUP that has CASES a k : { C f ( FIELDS with , ) VAR . EXPR and a | between two },"
             + " one right behind another, and right behind these MAIN (no ; stands there)");
@@ -342,7 +356,7 @@ public final class FlowSentenceTests {
             "(\\x.x) 1+dead (\\y.y)+(\\z.z) 3");
     }
 
-    private static void formData() {
+    private static void formMade() {
         sentence("in these a GLOBAL as C f ( ), a LAMBDA C f ( FIELDS )");
         formIs(0, "a0:{C0()x.x}a0(C0(),1)", "fun f x=x;f 1");
         formIs(0, "(let x=1 in C0(x))", "let x=1 in \\y.x");
