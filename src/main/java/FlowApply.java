@@ -16,8 +16,10 @@ public final class FlowApply {
     private static final int MOST_NESTED = 20;
     private static final int MOST_LETTERS = 4;
     private static final int MOST_STEPS = 100;
+    // Numbers, each VAR, two of each FUNCTION, and two of each SITE or one of each dead: some 270 at the most.
     private static final int MOST_TYPES = 400;
     private static final int MOST_TYPE_BYTES = 300;
+    // A form tells each LAMBDA twice, with 20 FIELDS of five bytes each at the most: some 6,000 bytes with all the rest.
     private static final int MOST_SHOWN = 7000;
     private static final int SPLITS = 3;
     private static final int PARTS = 3;
@@ -1854,7 +1856,7 @@ public final class FlowApply {
 
         private void putSite(Scene scene, int thing, int phase) {
             if (phase == 0 && formSplit != NONE) {
-                int applied = scene.flow.comes.bits(scene.program.part(thing, 0));
+                int applied = scene.flow.applied(scene.program, thing);
                 putText(applied == 0 ? "an" : "a");
                 if (applied != 0) {
                     putNumber(scene.groups.groupOf(formSplit, lowest(applied)));
